@@ -128,7 +128,7 @@ public final class ModelTest {
                 return "tire " + pick(3) + " " + (pick(3) == 0 ? sum() : "" + pick(90)) + may;
             case 2:
             case 3:
-                return "age " + pick(3) + " " + (pick(3) == 0 ? sum() : "" + pick(30)) + may;
+                return "age " + pick(3) + " " + (pick(3) == 0 ? sum() : of("box/3", "strips*9", "" + pick(30))) + may;
             case 4:
             case 5:
             case 6:

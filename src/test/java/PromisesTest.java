@@ -313,7 +313,7 @@ public final class PromisesTest {
 
     private static void again() {
         FourPoses x = town("dark 1=2");
-        Check.law(x, "tire 0 100;weak 0 850;age 0 box;off strips=3 or box=30;dark heat>20 and light=60");
+        Check.law(x, "tire 0 100;weak 0 850;age 0 box*4;off strips=3 or box=30;dark heat>20 and light=60");
         Check.law(x, "weak 1 999;tire 1 1;age 1 1");
         x.strip(0, 1, 1);
         x.strip(0, 1, 1);
