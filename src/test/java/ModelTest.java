@@ -314,7 +314,7 @@ public final class ModelTest {
                 int k = near(3);
                 if (pick(3) == 0) {
                     due("image", x.image(k), m.image(k));
-                } else if (pick(6) == 0) {
+                } else if (pick(run % 5 == 0 ? 1 : 6) == 0) {
                     due("back", x.back(k), m.back(k));
                 }
                 break;
