@@ -16,6 +16,7 @@ public final class PromisesTest {
         changes();
         emptyings();
         again();
+        againByDays();
         withAndFinest();
         readings();
         agree();
@@ -345,6 +346,36 @@ public final class PromisesTest {
         Check.due("what was stays", x.spoilt(0, 0), 5);
     }
 
+    /** Strips and box as they were when each day ended. */
+    private static void againByDays() {
+        FourPoses x = town("dark 1=2");
+        Check.law(x, "age 0 box*100;weak 0 950");
+        Check.law(x, "age 1 strips*10;weak 1 990");
+        Check.law(x, "age 2 day+1;weak 2 998");
+        x.clock(1);
+        x.strip(0, 1, 1);
+        x.empty(0);
+        Check.due("no box, no strips, day 0: 1", x.again(0, 1, 0) + x.again(0, 2, 0) + x.again(0, 3, 0), 3);
+        x.clock(2);
+        x.strip(0, 1, 1);
+        Check.due("box 0", x.again(0, 1, 1), 0);
+        Check.due("strips 1: 990", x.again(0, 2, 2), 0);
+        Check.due("day 1: 997", x.again(0, 3, 3), 1);
+        x.clock(3);
+        x.strip(0, 1, 1);
+        Check.due("box 10: 0", x.again(0, 1, 1), 1);
+        Check.due("strips 2: 970", x.again(0, 2, 2), 1);
+        x.change(0, 1);
+        x.clock(4);
+        x.strip(0, 1, 1);
+        Check.due("box 20", x.again(0, 1, 1), 2);
+        Check.due("strips 3, behind a change: 970", x.again(0, 2, 2), 2);
+        x.change(0, 1);
+        x.strip(0, 1, 1);
+        Check.due("behind a change", x.again(0, 2, 2), 2);
+        Check.due("a change of another bath", x.again(0, 1, 1), 3);
+    }
+
     private static void withAndFinest() {
         FourPoses x = new FourPoses();
         x.place(1);
@@ -669,6 +700,7 @@ public final class PromisesTest {
         Check.due("first places", x.placed(false, 0, 1), 1);
         Check.due("first places", x.placed(false, 0, 2), 2);
         Check.due("a crane's cost", x.placed(false, 1, 0), 3);
+        Check.due("takes nothing", x.takes(0, 0, 0, 0), true);
         Check.due("takes", x.takes(0, 0, 5, 50), true);
         Check.due("takes", x.takes(1, 0, 6, 6), true);
         Check.due("most below least", x.takes(1, 0, 6, 5), false);
@@ -767,7 +799,7 @@ public final class PromisesTest {
 
     private static void lawsOfFutures(FourPoses x) {
         Check.due("law", Check.law(x, "tire 0 head;weak 0 900;age 0 box+strips;dark stool=3;off light=99;refuse head>30"), 0);
-        Check.due("law", Check.law(x, "tire 1 head+stool;weak 1 950;age 1 heat;refund day=1;rent box-day*3"), 1);
+        Check.due("law", Check.law(x, "tire 1 head+stool;weak 1 950;age 1 heat;refund day=1;rent box-day*3+light*1000;off strips>5 and strips<9"), 1);
     }
 
     /** All that an image keeps, told in ways that differ by n. */
@@ -787,7 +819,7 @@ public final class PromisesTest {
             x.clock(x.count(0) + n % 2);
         }
         for (int i = 0; i < 24; i++) {
-            x.strip((i + n) % 3, 10 + (i * n + i) % 60, (i + n) % 5);
+            x.strip((i / n + n) % 3, 10 + (i * n + i) % 60, (i + n) % 5);
             if (i % 5 == n) {
                 x.change(i % 3, (i + n) % 3);
                 x.clock(x.count(0) + n);
@@ -812,7 +844,8 @@ public final class PromisesTest {
                 Check.due("again 1 " + b + " " + i, x.again(b, 1, i), y.again(b, 1, i));
                 Check.due("with " + b + " " + i, x.with(b, i % 3, i), y.with(b, i % 3, i));
                 Check.due("finest " + b + " " + i, x.finest(b, i), y.finest(b, i));
-                Check.due("agree " + b + " " + i, x.agree(b, i, i % 2), y.agree(b, i, i % 2));
+                Check.due("agree " + b + " " + i, x.agree(b, 3 * i, 0), y.agree(b, 3 * i, 0));
+                Check.due("agreed coins " + b + " " + i, x.agree(b, 3 * i, 1), y.agree(b, 3 * i, 1));
                 Check.due("fair " + i, x.fair(i, b), y.fair(i, b));
                 Check.due("suspect " + i, x.suspect(i), y.suspect(i));
                 Check.due("rent " + b + " " + i, x.rent(1, b, i / 2, i), y.rent(1, b, i / 2, i));
