@@ -799,7 +799,7 @@ public final class PromisesTest {
 
     private static void lawsOfFutures(FourPoses x) {
         Check.due("law", Check.law(x, "tire 0 head;weak 0 900;age 0 box+strips;dark stool=3;off light=99;refuse head>30"), 0);
-        Check.due("law", Check.law(x, "tire 1 head+stool;weak 1 950;age 1 heat;refund day=1;rent box-day*3+light*1000;off strips=4 and stool>1;off box>10 and box<25"), 1);
+        Check.due("law", Check.law(x, "tire 1 head+stool;weak 1 700;age 1 heat;refund day=1;rent box-day*3+light*1000;off strips=4 and stool>1;off box>10 and box<25"), 1);
     }
 
     /** All that an image keeps, told in ways that differ by n. */
