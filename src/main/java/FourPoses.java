@@ -1253,7 +1253,7 @@ public final class FourPoses {
         private void scan(int[] text, int length) {
             tokens = 0;
             int width = 1;
-            for (int i = 0; i < length; i += width) {
+            for (int i = 0; i < length; i += Math.max(1, width)) {
                 int sign = get(text, i);
                 width = 1;
                 if (isDigit(sign)) {
