@@ -7,13 +7,17 @@ final class Check {
 
     static void due(String call, long got, long want) {
         if (got != want) {
-            wrong++;
-            System.out.println(call + " answered " + got + ", due is " + want);
+            wrong(call + " answered " + got + ", due is " + want);
         }
     }
 
     static void due(String call, boolean got, boolean want) {
         due(call, got ? 1 : 0, want ? 1 : 0);
+    }
+
+    static void wrong(String what) {
+        wrong++;
+        System.out.println(what);
     }
 
     static void end() {
@@ -24,7 +28,7 @@ final class Check {
     }
 
     /** The text stands on the tape alone. */
-    static void tape(FourPoses x, String text) {
+    static void tape(Counted x, String text) {
         x.end(0);
         for (int at = 0; at < text.length(); at += 20) {
             x.feed(four(text, at), four(text, at + 4), four(text, at + 8), four(text, at + 12), four(text, at + 16));
@@ -32,7 +36,7 @@ final class Check {
         x.end(text.length());
     }
 
-    static int law(FourPoses x, String text) {
+    static int law(Counted x, String text) {
         tape(x, text);
         return x.law();
     }

@@ -15,7 +15,7 @@ public final class FaultsTest {
     }
 
     private static void tapeGrowsAndShrinks() {
-        FourPoses x = new FourPoses();
+        Counted x = new Counted();
         for (int i = 1; i <= 20; i++) {
             Check.due("feed " + i, x.feed(i, 0, 0, 0, 0), 20 * i);
         }
@@ -44,13 +44,13 @@ public final class FaultsTest {
     }
 
     private static void good(String text) {
-        FourPoses x = new FourPoses();
+        Counted x = new Counted();
         Check.due("law " + text, Check.law(x, text), 0);
         Check.due("laws of " + text, x.count(2), 1);
     }
 
     private static void fault(String text, int place, int kind) {
-        FourPoses x = new FourPoses();
+        Counted x = new Counted();
         Check.due("law " + text, Check.law(x, text), -2 - (1 + 8 * place + kind));
         Check.due("laws of " + text, x.count(2), 0);
         Check.due("tape of " + text, x.count(8), 0);
@@ -196,7 +196,7 @@ public final class FaultsTest {
     }
 
     private static void lawsAreEight() {
-        FourPoses x = new FourPoses();
+        Counted x = new Counted();
         for (int i = 0; i < 8; i++) {
             Check.due("a faulty law", Check.law(x, "dark"), -3 - 32);
             Check.due("law " + i, Check.law(x, "dark light<" + i), i);

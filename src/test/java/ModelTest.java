@@ -4,7 +4,7 @@ public final class ModelTest {
     private static final int CALLS = 512;
 
     private static long seed;
-    private static FourPoses x;
+    private static Counted x;
     private static Model m;
     private static int run;
 
@@ -12,7 +12,7 @@ public final class ModelTest {
         int runs = args.length > 0 ? Integer.parseInt(args[0]) : RUNS;
         for (run = 0; run < runs; run++) {
             seed = 1000003L * run + 17;
-            x = new FourPoses();
+            x = new Counted();
             m = new Model();
             begin();
             for (int i = 0; i < CALLS; i++) {
@@ -21,7 +21,7 @@ public final class ModelTest {
         }
         for (run = 0; run < 20 * runs; run++) {
             seed = 7777777L * run + 5;
-            x = new FourPoses();
+            x = new Counted();
             m = new Model();
             text(anyText());
         }

@@ -34,8 +34,8 @@ public final class PromisesTest {
     }
 
     /** Two places, a law by the text, a booth at place 0 of price 10 with paper for 50. */
-    private static FourPoses town(String text) {
-        FourPoses x = new FourPoses();
+    private static Counted town(String text) {
+        Counted x = new Counted();
         x.place(50);
         x.place(60);
         Check.due("law " + text, Check.law(x, text), 0);
@@ -45,7 +45,7 @@ public final class PromisesTest {
     }
 
     private static void newObject() {
-        FourPoses x = new FourPoses();
+        Counted x = new Counted();
         for (int what = 0; what <= 8; what++) {
             Check.due("count of a new object " + what, x.count(what), 0);
         }
@@ -63,7 +63,7 @@ public final class PromisesTest {
     }
 
     private static void placesMilesHeats() {
-        FourPoses x = new FourPoses();
+        Counted x = new Counted();
         Check.due("light below", x.place(-1), -1);
         Check.due("light above", x.place(100), -1);
         for (int i = 0; i < 12; i++) {
@@ -91,7 +91,7 @@ public final class PromisesTest {
     }
 
     private static void booths() {
-        FourPoses x = new FourPoses();
+        Counted x = new Counted();
         for (int i = 0; i < 12; i++) {
             x.place(1);
         }
@@ -120,7 +120,7 @@ public final class PromisesTest {
     }
 
     private static void moves() {
-        FourPoses x = town("dark light<55");
+        Counted x = town("dark light<55");
         x.booth(1, 5, 0);
         Check.due("move to a booth", x.move(0, 1), -1);
         Check.due("move to its own place", x.move(0, 0), -1);
@@ -137,7 +137,7 @@ public final class PromisesTest {
     }
 
     private static void papers() {
-        FourPoses x = town("dark 1=2");
+        Counted x = town("dark 1=2");
         Check.due("paper 0", x.paper(0, 0), -1);
         Check.due("paper 10000", x.paper(0, 10000), -1);
         Check.due("paper beyond", x.paper(0, 9950), -1);
@@ -149,7 +149,7 @@ public final class PromisesTest {
     }
 
     private static void strips() {
-        FourPoses x = town("dark 1=2");
+        Counted x = town("dark 1=2");
         Check.due("head 0", x.strip(0, 0, 0), -1);
         Check.due("head 100", x.strip(0, 100, 0), -1);
         Check.due("stool -1", x.strip(0, 1, -1), -1);
@@ -192,7 +192,7 @@ public final class PromisesTest {
             if (less[i] < 0) {
                 continue;
             }
-            FourPoses x = town("tire 1 " + words[i] + " if strips>0");
+            Counted x = town("tire 1 " + words[i] + " if strips>0");
             x.heat(4, 21);
             x.clock(4);
             x.strip(0, 33, 7);
@@ -204,7 +204,7 @@ public final class PromisesTest {
     }
 
     private static void spoilers() {
-        FourPoses x = town("weak 0 990;weak 1 980;weak 2 970;tire 0 head;tire 1 stool;tire 2 head+stool;"
+        Counted x = town("weak 0 990;weak 1 980;weak 2 970;tire 0 head;tire 1 stool;tire 2 head+stool;"
             + "dark head=50;off stool=10;off head=51");
         Check.due("good", x.strip(0, 1, 1), 0);
         Check.due("dark", x.strip(0, 50, 10), 4);
@@ -236,7 +236,7 @@ public final class PromisesTest {
     }
 
     private static void tiring() {
-        FourPoses x = town("tire 0 600 if head>10 and [stool=1 or stool=2];tire 0 7 if not strength=1000;tire 0 3;"
+        Counted x = town("tire 0 600 if head>10 and [stool=1 or stool=2];tire 0 7 if not strength=1000;tire 0 3;"
             + "tire 1 0-5;tire 2 5000;dark strength=1000;weak 2 1");
         Check.due("strength is 0 for dark", x.strip(0, 5, 1), 0);
         Check.due("the last clause", x.of(0, 0), 997);
@@ -251,7 +251,7 @@ public final class PromisesTest {
     }
 
     private static void days() {
-        FourPoses x = town("age 0 heat+day if strength>900;age 1 strips*10+box+head+stool;age 2 light+place;tire 1 0");
+        Counted x = town("age 0 heat+day if strength>900;age 1 strips*10+box+head+stool;age 2 light+place;tire 1 0");
         x.heat(0, 1);
         x.heat(1, 2);
         x.heat(2, 40);
@@ -278,7 +278,7 @@ public final class PromisesTest {
     }
 
     private static void changes() {
-        FourPoses x = town("tire 0 100;tire 2 300");
+        Counted x = town("tire 0 100;tire 2 300");
         x.strip(0, 1, 1);
         Check.due("change 2", x.change(0, 2), 700);
         Check.due("silver", x.of(0, 7), 300);
@@ -302,7 +302,7 @@ public final class PromisesTest {
     }
 
     private static void emptyings() {
-        FourPoses x = town("off box<10");
+        Counted x = town("off box<10");
         Check.due("off", x.strip(0, 1, 1), 5);
         Check.due("good", x.strip(0, 1, 1), 0);
         Check.due("empty", x.empty(0), 20);
@@ -314,7 +314,7 @@ public final class PromisesTest {
     }
 
     private static void again() {
-        FourPoses x = town("dark 1=2");
+        Counted x = town("dark 1=2");
         Check.law(x, "tire 0 100;weak 0 850;age 0 box*4;off strips=3 or box=30;dark heat>20 and light=60");
         Check.law(x, "weak 1 999;tire 1 1;age 1 1");
         x.strip(0, 1, 1);
@@ -348,7 +348,7 @@ public final class PromisesTest {
 
     /** Strips and box as they were when each day ended. */
     private static void againByDays() {
-        FourPoses x = town("dark 1=2");
+        Counted x = town("dark 1=2");
         Check.law(x, "age 0 box*100;weak 0 950");
         Check.law(x, "age 1 strips*10;weak 1 990");
         Check.law(x, "age 2 day+1;weak 2 998");
@@ -377,7 +377,7 @@ public final class PromisesTest {
     }
 
     private static void withAndFinest() {
-        FourPoses x = new FourPoses();
+        Counted x = new Counted();
         x.place(1);
         Check.law(x, "tire 0 100;weak 0 800;age 0 50");
         x.clock(10);
@@ -414,7 +414,7 @@ public final class PromisesTest {
     }
 
     private static void readings() {
-        FourPoses x = town("dark 1=2");
+        Counted x = town("dark 1=2");
         x.clock(5);
         Check.due("reading", x.reading(0, 0, 0, 0), 1);
         Check.due("reading", x.reading(0, 5, 99999, 99999999), 2);
@@ -433,7 +433,7 @@ public final class PromisesTest {
     }
 
     private static void agree() {
-        FourPoses x = town("dark 1=2");
+        Counted x = town("dark 1=2");
         x.booth(1, 3, 0);
         Check.due("none", x.agree(0, 0, 0), UNTOLD);
         x.strip(0, 1, 1);
@@ -468,7 +468,7 @@ public final class PromisesTest {
     }
 
     private static void claims() {
-        FourPoses x = town("dark head=9");
+        Counted x = town("dark head=9");
         x.booth(1, 5, 0);
         x.paper(1, 9);
         x.strip(0, 9, 1);
@@ -509,7 +509,7 @@ public final class PromisesTest {
             "light=50", "place=0 and head=0 and stool=0 and strength=0", "place=1"};
         int[] due = {0, 1, 1, 0, 1, 0, 1, 0, 1, 1, 0};
         for (int i = 0; i < tests.length; i++) {
-            FourPoses x = town("refund " + tests[i]);
+            Counted x = town("refund " + tests[i]);
             x.booth(1, 5, 0);
             x.heat(3, 33);
             x.strip(0, 1, 1);
@@ -527,7 +527,7 @@ public final class PromisesTest {
     }
 
     private static void suspects() {
-        FourPoses x = town("dark head=9");
+        Counted x = town("dark head=9");
         x.booth(1, 5, 0);
         x.strip(0, 9, 1);
         x.claim(5, 0, 0);
@@ -552,7 +552,7 @@ public final class PromisesTest {
     }
 
     private static void refusals() {
-        FourPoses x = town("dark head=99");
+        Counted x = town("dark head=99");
         Check.law(x, "refuse head>50 and strips=0 and box=0 and strength=0;refuse stool=20");
         Check.law(x, "refuse head>60 or heat=30 and day=2 or light=60 and place=1");
         x.booth(1, 7, 0);
@@ -586,7 +586,7 @@ public final class PromisesTest {
     }
 
     private static void rents() {
-        FourPoses x = town("dark 1=2");
+        Counted x = town("dark 1=2");
         Check.law(x, "rent strips*100+box+day+heat if strips>1;rent 7");
         Check.law(x, "rent 0-99999*99999 if day>5;rent 99999*99999 if day=5;rent head+stool+strength+light+place+7");
         Check.law(x, "rent 5 if strips>99");
@@ -616,13 +616,13 @@ public final class PromisesTest {
         Check.due("cheapest no day", x.cheapest(0, 0, 400), -1);
         Check.due("cheapest no day", x.cheapest(0, -1, 0), -1);
         Check.due("cheapest no booth", x.cheapest(1, 0, 1), -1);
-        FourPoses y = town("rent 99999*99999");
+        Counted y = town("rent 99999*99999");
         Check.due("cheapest of dear ones", y.cheapest(0, 0, 0), 0);
     }
 
     /** Places 0 to 4 on a line of 10 miles each; booths 0, 1, 2 at 3, 1, 4. */
-    private static FourPoses line() {
-        FourPoses x = new FourPoses();
+    private static Counted line() {
+        Counted x = new Counted();
         for (int i = 0; i < 5; i++) {
             x.place(1);
         }
@@ -639,7 +639,7 @@ public final class PromisesTest {
     }
 
     private static void rounds() {
-        FourPoses x = line();
+        Counted x = line();
         Check.due("empty set", x.round(0, 0, -1), 0);
         Check.due("empty set's first", x.round(0, 0, 0), -1);
         Check.due("one", x.round(1, 0, -1), 60);
@@ -664,7 +664,7 @@ public final class PromisesTest {
     }
 
     private static void worthy() {
-        FourPoses x = line();
+        Counted x = line();
         Check.due("call", x.call(0, 100), 0);
         Check.due("call again", x.call(0, 59), 100);
         Check.due("call above", x.call(0, 10000), -1);
@@ -694,7 +694,7 @@ public final class PromisesTest {
     }
 
     private static void placed() {
-        FourPoses x = line();
+        Counted x = line();
         Check.due("nothing told", x.placed(false, 0, -1), 0);
         Check.due("first places", x.placed(false, 0, 0), 0);
         Check.due("first places", x.placed(false, 0, 1), 1);
@@ -725,7 +725,7 @@ public final class PromisesTest {
     }
 
     private static void images() {
-        FourPoses x = new FourPoses();
+        Counted x = new Counted();
         Check.due("back to none", x.back(0), -1);
         Check.due("image of nothing", x.image(0), 0);
         Check.due("image 4", x.image(4), -1);
@@ -797,13 +797,13 @@ public final class PromisesTest {
         Check.due("back to it", x.back(0), 4);
     }
 
-    private static void lawsOfFutures(FourPoses x) {
+    private static void lawsOfFutures(Counted x) {
         Check.due("law", Check.law(x, "tire 0 head;weak 0 900;age 0 box+strips;dark stool=3;off light=99;refuse head>30"), 0);
         Check.due("law", Check.law(x, "tire 1 head+stool;weak 1 700;age 1 heat;refund day=1;rent box-day*3+light*1000;off strips=4 and stool>1;off box>10 and box<25"), 1);
     }
 
     /** All that an image keeps, told in ways that differ by n. */
-    private static void future(FourPoses x, int n) {
+    private static void future(Counted x, int n) {
         for (int i = 0; i < 3 + n; i++) {
             x.place(99 - i * n);
         }
@@ -834,7 +834,7 @@ public final class PromisesTest {
         }
     }
 
-    private static void same(FourPoses x, FourPoses y) {
+    private static void same(Counted x, Counted y) {
         for (int b = -1; b < 4; b++) {
             for (int i = 0; i < 9; i++) {
                 Check.due("count " + i, x.count(i), y.count(i));
@@ -860,7 +860,7 @@ public final class PromisesTest {
 
     /** An object that went back answers as one that never went another way (over 512 calls: this class counts none). */
     private static void futures() {
-        FourPoses x = new FourPoses();
+        Counted x = new Counted();
         lawsOfFutures(x);
         x.image(0);
         future(x, 1);
@@ -869,7 +869,7 @@ public final class PromisesTest {
         future(x, 2);
         x.image(2);
         for (int n = 1; n <= 2; n++) {
-            FourPoses y = new FourPoses();
+            Counted y = new Counted();
             lawsOfFutures(y);
             future(y, n);
             Check.due("back", x.back(n), y.count(0));

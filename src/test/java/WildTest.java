@@ -10,7 +10,7 @@ public final class WildTest {
 
     public static void main(String[] args) {
         for (int run = 0; run < 20; run++) {
-            FourPoses x = new FourPoses();
+            Counted x = new Counted(Integer.MAX_VALUE);
             for (int i = 0; i < 20000; i++) {
                 call(x, pick(36));
             }
@@ -36,7 +36,7 @@ public final class WildTest {
         }
     }
 
-    private static void call(FourPoses x, int kind) {
+    private static void call(Counted x, int kind) {
         switch (kind) {
             case 0: x.place(n()); break;
             case 1: x.miles(n(), n(), n()); break;
