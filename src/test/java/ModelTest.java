@@ -1,7 +1,8 @@
 /** All promises: long runs of drawn calls, the same each time, beside the naive model. */
 public final class ModelTest {
-    private static final int RUNS = 400;
-    private static final int CALLS = 512;
+    private static final int RUNS = 600;
+    /** A text is fed in twenty calls, cut ahead and behind, and read. */
+    private static final int MOST_AT_ONCE = 23;
 
     private static long seed;
     private static Counted x;
@@ -15,7 +16,7 @@ public final class ModelTest {
             x = new Counted();
             m = new Model();
             begin();
-            for (int i = 0; i < CALLS; i++) {
+            while (x.left() >= MOST_AT_ONCE) {
                 call(pick(46));
             }
         }

@@ -29,7 +29,6 @@ public final class PromisesTest {
         worthy();
         placed();
         images();
-        futures();
         Check.end();
     }
 
@@ -795,96 +794,5 @@ public final class PromisesTest {
         Check.due("image anew", x.image(0), 4);
         x.clock(8);
         Check.due("back to it", x.back(0), 4);
-    }
-
-    private static void lawsOfFutures(Counted x) {
-        Check.due("law", Check.law(x, "tire 0 head;weak 0 900;age 0 box+strips;dark stool=3;off light=99;refuse head>30"), 0);
-        Check.due("law", Check.law(x, "tire 1 head+stool;weak 1 700;age 1 heat;refund day=1;rent box-day*3+light*1000;off strips=4 and stool>1;off box>10 and box<25"), 1);
-    }
-
-    /** All that an image keeps, told in ways that differ by n. */
-    private static void future(Counted x, int n) {
-        for (int i = 0; i < 3 + n; i++) {
-            x.place(99 - i * n);
-        }
-        for (int i = 0; i < 3; i++) {
-            x.miles(i, i + 1, 10 * n + i);
-            x.heat(i, 7 * n + i);
-        }
-        for (int b = 0; b < 3; b++) {
-            x.booth((b + n) % 4, 5 + b + n, (b + n) % 2);
-            x.paper(b, 30 + n);
-            x.call(b, 100 * n + b);
-            x.takes(b, n, 10 * n, 20 * n + b);
-            x.clock(x.count(0) + n % 2);
-        }
-        for (int i = 0; i < 24; i++) {
-            x.strip((i / n + n) % 3, 10 + (i * n + i) % 60, (i + n) % 5);
-            if (i % 5 == n) {
-                x.change(i % 3, (i + n) % 3);
-                x.clock(x.count(0) + n);
-            }
-            if (i % 7 == n) {
-                x.empty((i + n) % 3);
-            }
-            if (i % 4 == n) {
-                x.reading(i % 3, x.count(0) - i % n, i * n, i + n);
-                x.claim(i * n % 9, (i + n) % 3, x.count(0) - i % n);
-            }
-        }
-    }
-
-    private static void same(Counted x, Counted y) {
-        for (int b = -1; b < 4; b++) {
-            for (int i = 0; i < 9; i++) {
-                Check.due("count " + i, x.count(i), y.count(i));
-                Check.due("of " + b + " " + i, x.of(b, i), y.of(b, i));
-                Check.due("spoilt " + b + " " + i, x.spoilt(b, i), y.spoilt(b, i));
-                Check.due("again 0 " + b + " " + i, x.again(b, 0, i), y.again(b, 0, i));
-                Check.due("again 1 " + b + " " + i, x.again(b, 1, i), y.again(b, 1, i));
-                Check.due("with " + b + " " + i, x.with(b, i % 3, i), y.with(b, i % 3, i));
-                Check.due("finest " + b + " " + i, x.finest(b, i), y.finest(b, i));
-                Check.due("agree " + b + " " + i, x.agree(b, 3 * i, 0), y.agree(b, 3 * i, 0));
-                Check.due("agreed coins " + b + " " + i, x.agree(b, 3 * i, 1), y.agree(b, 3 * i, 1));
-                Check.due("fair " + i, x.fair(i, b), y.fair(i, b));
-                Check.due("suspect " + i, x.suspect(i), y.suspect(i));
-                Check.due("rent " + b + " " + i, x.rent(1, b, i / 2, i), y.rent(1, b, i / 2, i));
-                Check.due("round " + b + " " + i, x.round(i, 0, b), y.round(i, 0, b));
-                Check.due("worthy " + i, x.worthy(i, 1, 1), y.worthy(i, 1, 1));
-                Check.due("placed " + b + " " + i, x.placed(i % 2 == 0, i, b), y.placed(i % 2 == 0, i, b));
-            }
-            Check.due("refused " + b, x.refused(0, b), y.refused(0, b));
-            Check.due("newer", x.newer(0, 1), y.newer(0, 1));
-        }
-    }
-
-    /** An object that went back answers as one that never went another way (over 512 calls: this class counts none). */
-    private static void futures() {
-        Counted x = new Counted();
-        lawsOfFutures(x);
-        x.image(0);
-        future(x, 1);
-        x.image(1);
-        x.back(0);
-        future(x, 2);
-        x.image(2);
-        for (int n = 1; n <= 2; n++) {
-            Counted y = new Counted();
-            lawsOfFutures(y);
-            future(y, n);
-            Check.due("back", x.back(n), y.count(0));
-            same(x, y);
-            Check.due("back", x.back(0), 0);
-            future(x, 3 - n);
-            Check.due("back", x.back(n), y.count(0));
-            same(x, y);
-            // what was told behind the image is gone, also where it would be told once more
-            future(x, 1);
-            x.back(n);
-            same(x, y);
-            future(x, 2);
-            future(y, 2);
-            same(x, y);
-        }
     }
 }
