@@ -15,6 +15,7 @@ public final class ImagesTest {
         whereNothingWasTold();
         empty();
         otherFutures();
+        rowsTakenAnew();
         Check.end();
     }
 
@@ -234,5 +235,106 @@ public final class ImagesTest {
                 x.clock(30);
             }, false);
         }
+    }
+
+    /** Two pasts that differ in each thing told, one over the other, and both gone back to. */
+    private static void rowsTakenAnew() {
+        Counted x = new Counted();
+        String[] laws = {"rent 1", "off light=60", "dark strips=1", "dark box=7", "refuse head=5", "refuse stool=6",
+            "age 0 1;weak 0 999", "off box=0"};
+        for (String law : laws) {
+            Check.law(x, law);
+        }
+        x.image(0);
+        onePast(x);
+        x.image(1);
+        asInOnePast(x);
+        x.back(0);
+        otherPast(x);
+        x.image(2);
+        asInOtherPast(x);
+        Check.due("back to the one", x.back(1), 3);
+        asInOnePast(x);
+        Check.due("back to the other", x.back(2), 6);
+        asInOtherPast(x);
+        x.back(0);
+        onePast(x);
+        asInOnePast(x);
+    }
+
+    private static void onePast(Counted x) {
+        x.place(60);
+        x.place(61);
+        x.clock(1);
+        x.booth(0, 7, 0);
+        x.paper(0, 9);
+        x.strip(0, 5, 6);
+        x.reading(0, 0, 1, 10);
+        x.clock(3);
+        x.strip(0, 5, 1);
+        x.reading(0, 1, 5, 50);
+        x.claim(2, 0, 1);
+    }
+
+    private static void asInOnePast(Counted x) {
+        Check.due("NOW", x.count(0), 3);
+        Check.due("light of PLACE 0", x.again(0, 1, 5), 2);
+        Check.due("COUNTER of a STRIP", x.again(0, 2, 4), 1);
+        Check.due("BOX of a STRIP", x.again(0, 3, 4), 1);
+        Check.due("BOX of the first", x.again(0, 7, 5), 1);
+        Check.due("heads", x.refused(4, -1), 2);
+        Check.due("stools", x.refused(5, -1), 1);
+        Check.due("DAYS of STRIPS", x.again(0, 6, 1), 1);
+        Check.due("ahead of its DAY", x.with(0, 0, 0), -1);
+        Check.due("its DAY", x.finest(0, 0), 1);
+        Check.due("KNOWN on DAY 2", x.agree(0, 2, 0), -1000000000);
+        Check.due("KNOWN on DAY 3", x.agree(0, 3, 0), 3);
+        Check.due("their coins", x.agree(0, 3, 1), 33);
+        Check.due("who claims", x.suspect(0), 2);
+        Check.due("no CLAIM more", x.fair(1, 0), -1);
+        Check.due("price", x.rent(0, 0, 0, 3), 1);
+        Check.due("no BOOTH more", x.of(1, 0), -1);
+        Check.due("no CHANGE", x.count(5), 0);
+    }
+
+    private static void otherPast(Counted x) {
+        x.place(10);
+        x.place(60);
+        x.booth(1, 9, 0);
+        x.booth(0, 3, 7);
+        x.paper(0, 9);
+        x.paper(1, 9);
+        x.strip(1, 9, 9);
+        x.strip(1, 8, 6);
+        x.empty(1);
+        x.change(0, 2);
+        x.strip(0, 8, 8);
+        x.clock(6);
+        x.reading(1, 5, 6, 60);
+        x.reading(1, 6, 70, 7);
+        x.reading(0, 6, 70, 7);
+        x.claim(9, 1, 0);
+        x.claim(9, 1, 0);
+        x.claim(9, 1, 6);
+    }
+
+    private static void asInOtherPast(Counted x) {
+        Check.due("NOW", x.count(0), 6);
+        Check.due("light of PLACE 1", x.again(0, 1, 5), 1);
+        Check.due("light of PLACE 0", x.again(1, 1, 5), 0);
+        Check.due("COUNTER of a STRIP", x.again(1, 2, 4), 1);
+        Check.due("BOX of none", x.again(1, 3, 4), 0);
+        Check.due("heads", x.refused(4, -1), 0);
+        Check.due("stools", x.refused(5, -1), 1);
+        Check.due("DAYS of STRIPS", x.again(0, 6, 1), 0);
+        Check.due("its DAY", x.with(0, 0, 0), 0);
+        Check.due("SPOILT by its own LAW", x.with(1, 0, 0), 1);
+        Check.due("KNOWN on DAY 6", x.agree(1, 6, 0), 64);
+        Check.due("their coins", x.agree(1, 6, 1), -53);
+        Check.due("one of BOOTH 0", x.agree(0, 6, 0), -1000000000);
+        Check.due("who claims", x.suspect(0), 9);
+        Check.due("the FAIR one", x.fair(0, 0), 1);
+        Check.due("not FAIR", x.fair(1, 0), 0);
+        Check.due("CHANGES", x.count(5), 1);
     }
 }

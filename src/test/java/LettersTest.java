@@ -312,6 +312,17 @@ public final class LettersTest {
         }
         Check.due("all are FAIR", x.suspect(0), -2);
         Check.due("none", x.suspect(1), 0);
+        Counted y = Towns.house("dark head=9", 7);
+        y.claim(5, 0, 0);
+        Check.due("the first CLAIM", y.suspect(0), 5);
+        Check.due("one", y.suspect(1), 1);
+        y.claim(4, 0, 0);
+        y.claim(6, 0, 0);
+        Check.due("of three the least", y.suspect(0), 4);
+        y.strip(0, 9, 1);
+        Check.due("of two the least", y.suspect(0), 4);
+        y.strip(0, 9, 1);
+        Check.due("the last CLAIM", y.suspect(0), 6);
     }
 
     /** "how many CLAIMS are not FAIR, less how many pairs of a BOOTH and a DAY have such a one". */

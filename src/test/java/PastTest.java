@@ -4,6 +4,7 @@ public final class PastTest {
         fromItsBeginning();
         inItsOrder();
         asTheyWereThen();
+        daysOfAnEmptyBox();
         asToldNow();
         spoiltByEach();
         ofItsOwnStrips();
@@ -12,6 +13,7 @@ public final class PastTest {
         withAheadOfAll();
         withByAny();
         finestOfSeveral();
+        finestAskedFirst();
         finestEdges();
         Check.end();
     }
@@ -91,6 +93,50 @@ public final class PastTest {
         x.clock(4);
         x.strip(0, 1, 1);
         tally("6, 10: BATH 0 is 970", x, 0, 1, 1, 1, 1, 0, 1, 3);
+    }
+
+    /** strips and box of DAYS ahead of all STRIPS, and behind emptyings, of one coin too. */
+    private static void daysOfAnEmptyBox() {
+        Counted x = Towns.house("rent 1", 1);
+        Check.law(x, "age 0 100 if strips=0;age 1 100 if box=0;age 2 100 if box=1;weak 0 900;weak 1 900;weak 2 900");
+        x.clock(1);
+        x.strip(0, 1, 1);
+        tally("a DAY without STRIPS: 900, 900, 1000", x, 0, 1, 1, 0, 0, 0, 0, 0);
+        x.clock(2);
+        x.strip(0, 1, 1);
+        tally("a DAY with a coin: 900, 900, 900", x, 0, 1, 2, 0, 0, 0, 0, 0);
+        x.empty(0);
+        x.strip(0, 1, 1);
+        x.empty(0);
+        x.clock(3);
+        x.strip(0, 1, 1);
+        tally("a DAY of an emptied BOX: 900, 800, 900", x, 0, 1, 3, 0, 1, 0, 0, 0);
+        x.change(0, 1);
+        x.clock(4);
+        x.strip(0, 1, 1);
+        tally("a DAY with a coin: 900, 1000, 800", x, 0, 1, 3, 0, 1, 1, 0, 0);
+        Counted y = Towns.house("age 0 1 if strips=0 and box=0;weak 0 998", 1);
+        y.clock(3);
+        y.strip(0, 1, 1);
+        Check.due("997", y.with(0, 0, 0), 1);
+        Check.due("998", y.with(0, 0, 1), 0);
+        Counted z = Towns.house("rent 1", 1);
+        Check.law(z, "age 0 strips+1;age 1 box+1;weak 0 999;weak 1 999");
+        z.clock(1);
+        z.strip(0, 1, 1);
+        tally("999, 999", z, 0, 1, 1, 0, 0, 0, 0, 0);
+        z.clock(2);
+        z.strip(0, 1, 1);
+        tally("997, 997", z, 0, 1, 1, 1, 0, 0, 0, 0);
+        z.change(0, 0);
+        z.change(0, 1);
+        z.empty(0);
+        z.clock(3);
+        z.strip(0, 1, 1);
+        tally("997, 999", z, 0, 1, 1, 2, 0, 0, 0, 0);
+        z.change(0, 0);
+        z.strip(0, 1, 1);
+        tally("1000, 999", z, 0, 1, 2, 2, 0, 0, 0, 0);
     }
 
     /** "light and place as now, HEATS as told now", by its own LAW too. */
@@ -262,6 +308,40 @@ public final class PastTest {
         x.strip(0, 1, 1);
         Check.due("one more of DAY 6", x.with(0, 2, 6), 7);
         Check.due("still the first", x.finest(0, 2), 2);
+    }
+
+    /** Asked first of all: STRIPS ahead of the DAY, other BATHS, dark and off count as they were. */
+    private static void finestAskedFirst() {
+        Counted x = Towns.house("tire 0 100;tire 1 100;weak 0 900;weak 1 800;dark head=9", 10);
+        x.strip(0, 1, 1);
+        x.strip(0, 1, 1);
+        x.strip(0, 1, 1);
+        x.clock(1);
+        x.strip(0, 9, 1);
+        x.strip(0, 9, 1);
+        x.clock(2);
+        x.strip(0, 1, 1);
+        // BATH 0 is too weak from the third on, BATH 1 from the fourth on: of no use to the dark ones, or to the last
+        Check.due("FINEST of BATH 0", x.finest(0, 0), 0);
+        Check.due("FINEST of BATH 2", x.finest(0, 2), 0);
+        x.change(0, 1);
+        x.strip(0, 1, 1);
+        x.strip(0, 1, 1);
+        Check.due("FINEST of BATH 0, two of DAY 2", x.finest(0, 0), 2);
+        Check.due("FINEST of BATH 1", x.finest(0, 1), 0);
+        Counted y = Towns.house("weak 0 900;weak 1 900;tire 0 200 if stool=1;tire 1 200 if stool=2;off head=9", 10);
+        y.strip(0, 1, 1);
+        y.strip(0, 9, 0);
+        y.clock(1);
+        y.strip(0, 1, 0);
+        y.strip(0, 1, 2);
+        y.clock(2);
+        y.strip(0, 1, 0);
+        y.strip(0, 9, 0);
+        Check.due("DAY 1, one of BATH 0", y.finest(0, 0), 1);
+        Check.due("none of BATH 1 alone", y.finest(0, 1), 0);
+        Check.due("five are SPOILT", y.with(0, 0, 0), 5);
+        Check.due("the one of DAY 1 and its next", y.with(0, 0, 1), 3);
     }
 
     /** "(from the DAY on which the BOOTH came to NOW)". */

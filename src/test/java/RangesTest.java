@@ -125,9 +125,9 @@ public final class RangesTest {
     private static void someImages() {
         Twins.question("count what 0 to 8", SOME, (x, n) -> x.count(n), 0, 8, -1);
         Twins.range("image 0 to 3", SOME, (x, n) -> x.image(n), 0, 3, -1);
-        Twins.range("back to image 0", SOME, (x, n) -> x.back(n), 0, 0, -1);
-        Twins.range("back to image 2", SOME, (x, n) -> x.back(n), 2, 2, -1);
-        Twins.refused("back to image 4", SOME, x -> x.back(4), -1);
+        for (int other : new int[] {-2, -1, 1, 3, 4, 5}) {
+            Twins.refused("back to image " + other, SOME, x -> x.back(other), -1);
+        }
     }
 
     /** PLACES 0 to 11, LAWS and BOOTHS 0 to 7. */

@@ -25,6 +25,7 @@ public final class TextsTest {
         tests();
         firstClauses();
         holding();
+        behindFaults();
         Check.end();
     }
 
@@ -371,6 +372,10 @@ public final class TextsTest {
                 test(n + signs[i] + "5", due[i][n - 4]);
                 test("head+" + (n - 1) + " " + signs[i] + " heat/3", due[i][n - 4]);
                 test("0-5" + signs[i] + "0-" + n, due[i][n - 4]);
+                test("not " + n + signs[i] + "5", !due[i][n - 4]);
+                test(n + signs[i] + "5 and 1=1", due[i][n - 4]);
+                test("1<=1 and " + n + signs[i] + "5", due[i][n - 4]);
+                test("1=2 or " + n + signs[i] + "5", due[i][n - 4]);
             }
         }
         for (String other : new String[] {"=<", "=>", "==", "<>", "><", "<<", ">>", "<==", ">=="}) {
@@ -454,6 +459,32 @@ public final class TextsTest {
         for (int claim = 0; claim < 4; claim++) {
             x.claim(6, 0, 0);
             Check.due("refund of claim " + claim, x.fair(claim, 1), claim == 1 || claim == 2 ? 1 : 0);
+        }
+    }
+
+    /** A text with a fault is no LAW, and leaves nothing to the next one. */
+    private static void behindFaults() {
+        String[] faulty = {"rent 5;", "tire 2 1;", "tire 0 1;rent 6 if 1=1;rent", "weak 0 900;weak 1 800;weak 2 700;",
+            "rent 1" + "+1".repeat(60), "dark " + "[".repeat(11), "age 0 1;".repeat(14), "dark 1=1;off 1=1;refuse 1=1;]"};
+        for (String text : faulty) {
+            Counted x = new Counted();
+            x.place(50);
+            Check.due("faulty: " + text, Check.law(x, text) < -2, true);
+            Check.due("behind " + text, Check.law(x, "rent 7;tire 1 4;tire 1 5;weak 2 999;weak 1 0"), 0);
+            Check.due("faulty: " + text, Check.law(x, text) < -2, true);
+            Check.due("behind " + text, Check.law(x, "rent 1" + "+1".repeat(59)), 1);
+            x.booth(0, 3, 0);
+            x.paper(0, 5);
+            Check.due("no strip is SPOILT behind " + text, x.strip(0, 1, 1), 0);
+            Check.due("BATH 0 behind " + text, x.of(0, 0), 1000);
+            Check.due("BATH 1 behind " + text, x.of(0, 1), 996);
+            Check.due("BATH 2 behind " + text, x.of(0, 2), 1000);
+            x.clock(1);
+            Check.due("no age behind " + text, x.of(0, 0), 1000);
+            Check.due("RENT behind " + text, x.rent(0, 0, 0, 0), 7);
+            Check.due("RENT of 60 VALUES behind " + text, x.rent(1, 0, 0, 0), 60);
+            Check.due("none is REFUSED behind " + text, x.refused(0, 0), 0);
+            Check.due("LAWS behind " + text, x.count(2), 2);
         }
     }
 }

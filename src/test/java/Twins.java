@@ -59,7 +59,7 @@ final class Twins {
 
     /** A call takes the numbers from low to high, and refuses those beside them as if it had not been made. */
     static void range(String what, Past past, Number call, int low, int high, long refusal) {
-        for (int n : new int[] {low - 1, high + 1, Integer.MIN_VALUE, Integer.MAX_VALUE}) {
+        for (int n : new int[] {low - 2, low - 1, high + 1, high + 2, Integer.MIN_VALUE, Integer.MAX_VALUE}) {
             refused(what + ": " + n, past, x -> call.on(x, n), refusal);
         }
         taken(what + ": " + low, of(past), x -> call.on(x, low), refusal);
