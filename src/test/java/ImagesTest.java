@@ -305,10 +305,10 @@ public final class ImagesTest {
         x.paper(0, 9);
         x.paper(1, 9);
         x.strip(1, 9, 9);
+        x.strip(0, 8, 8);
         x.strip(1, 8, 6);
         x.empty(1);
         x.change(0, 2);
-        x.strip(0, 8, 8);
         x.clock(6);
         x.reading(1, 5, 6, 60);
         x.reading(1, 6, 70, 7);

@@ -7,6 +7,8 @@ public final class LimitsTest {
         eightBooths();
         paperFull();
         fourHundredStrips();
+        fourHundredOfOne();
+        allThatCame();
         hundredChanges();
         hundredReadings();
         hundredClaims();
@@ -148,6 +150,47 @@ public final class LimitsTest {
         Check.due("good ones", x.spoilt(-1, 0), 200);
         Check.due("SPOILT ones", x.spoilt(-1, 4), 200);
         Check.due("those of BOOTH 1", x.again(1, 0, 0), 200);
+    }
+
+    /** All STRIPS of one BOOTH, by BATHS that tire to the last of them. */
+    private static void fourHundredOfOne() {
+        Counted x = Towns.house("tire 0 2;dark 1=1", 2);
+        Check.law(x, "tire 0 2;weak 0 202");
+        Check.law(x, "tire 0 2;weak 0 203");
+        Check.law(x, "off strips=399 and box=798;tire 0 1;weak 0 1");
+        x.paper(0, 380);
+        times(400, () -> Check.due("dark", x.strip(0, 1, 1), 4));
+        Check.due("no paper, and 400", x.strip(0, 1, 1), -1);
+        Check.due("STRENGTH", x.of(0, 0), 200);
+        Check.due("202 isn't below 202", x.again(0, 1, 1), 0);
+        Check.due("202 is below 203", x.again(0, 2, 1), 1);
+        Check.due("COUNTER 399, BOX 798 ahead of the last", x.again(0, 3, 5), 1);
+        Check.due("all are dark", x.again(0, 0, 4), 400);
+        Check.due("whatever is CHANGED", x.with(0, 0, 0), 400);
+        Check.due("FINEST, of several the first", x.finest(0, 0), 0);
+        Check.due("RENT of all", x.rent(0, 0, 0, 0), 0);
+    }
+
+    /** STRIPS, CHANGES, emptyings and DAYS in their order, as many as there can be in 512 calls. */
+    private static void allThatCame() {
+        Counted x = Towns.house("tire 1 10", 2);
+        Check.law(x, "tire 1 10;weak 1 990;age 1 1 if box=2");
+        x.paper(0, 380);
+        for (int i = 0; i < 100; i++) {
+            // 1000, then 990, or 989 where a DAY went by with two coins in the BOX
+            x.change(0, 1);
+            x.strip(0, 1, 1);
+            if (i % 4 == 0) {
+                x.clock(i / 4 + 1);
+            }
+            x.strip(0, 1, 1);
+            x.empty(0);
+        }
+        Check.due("25 by the age", x.again(0, 1, 2), 25);
+        times(40, () -> x.strip(0, 1, 1));
+        Check.due("and the last 40, from 980 on", x.again(0, 1, 2), 65);
+        Check.due("good ones", x.again(0, 1, 0), 175);
+        Check.due("STRIPS", x.count(4), 240);
     }
 
     /** "CHANGES: 100 in all": of all BOOTHS and BATHS. */

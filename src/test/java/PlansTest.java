@@ -17,6 +17,7 @@ public final class PlansTest {
         placedOfSeveral();
         placedNumbers();
         placedOfEight();
+        placedAsInImage();
         Check.end();
     }
 
@@ -336,5 +337,26 @@ public final class PlansTest {
         placed("they stay", y, true, 1, 0, 7, 6, 5, 4, 3, 2, 1, 0);
         y.takes(7, 7, 5, 5);
         placed("two change PLACES", y, true, 2, 1, 0, 6, 5, 4, 3, 2, 1, 7);
+    }
+
+    /** "PLACES that there are", BOOTHS and MILES: those of the IMAGE, whatever was planned ahead of it. */
+    private static void placedAsInImage() {
+        Counted x = row(3, 2);
+        x.miles(0, 1, 9);
+        x.image(0);
+        x.place(1);
+        x.place(1);
+        x.booth(3, 5, 0);
+        x.takes(0, 3, 5000, 5000);
+        x.takes(1, 4, 5000, 5000);
+        x.call(0, 500);
+        x.call(2, 500);
+        placed("at 3 and 4", x, false, 0, 10000, 3, 4, 0);
+        worthy("0 and 2", x, 3, 1, 5, 1000);
+        x.back(0);
+        placed("PLACES 0 to 2", x, false, 0, 0, 0, 1);
+        placed("as they are", x, false, 1, 0, 2, 1);
+        worthy("nothing", x, 0, 1, 0, 0);
+        order("both", x, 3, 0, 9, 0, 1);
     }
 }

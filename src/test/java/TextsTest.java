@@ -26,6 +26,7 @@ public final class TextsTest {
         firstClauses();
         holding();
         behindFaults();
+        behindManyFaults();
         Check.end();
     }
 
@@ -462,10 +463,23 @@ public final class TextsTest {
         }
     }
 
+    /** However many texts with a fault were told ahead of it. */
+    private static void behindManyFaults() {
+        Counted x = new Counted();
+        x.place(50);
+        for (int i = 0; i < 20; i++) {
+            Check.due("faulty", Check.law(x, "rent 1" + "+1".repeat(59) + ";"), -2 - (1 + 8 * 125));
+        }
+        Check.due("law", Check.law(x, "rent 1" + "+1".repeat(58) + "+heat"), 0);
+        x.booth(0, 3, 0);
+        Check.due("RENT", x.rent(0, 0, 0, 0), 74);
+    }
+
     /** A text with a fault is no LAW, and leaves nothing to the next one. */
     private static void behindFaults() {
         String[] faulty = {"rent 5;", "tire 2 1;", "tire 0 1;rent 6 if 1=1;rent", "weak 0 900;weak 1 800;weak 2 700;",
-            "rent 1" + "+1".repeat(60), "dark " + "[".repeat(11), "age 0 1;".repeat(14), "dark 1=1;off 1=1;refuse 1=1;]"};
+            "rent 1" + "+1".repeat(60), "dark " + "[".repeat(11), "age 0 1;".repeat(14), "dark 1=1;off 1=1;refuse 1=1;]",
+            "age 0 0;age 0 0;age 0 0;age 0 0;age 0 0;dark 1=1;]", "age 0 0;age 0 0;age 0 0;age 0 0;age 0 0;tire 0 9;]"};
         for (String text : faulty) {
             Counted x = new Counted();
             x.place(50);
