@@ -41,6 +41,29 @@ public final class FaultsTest {
         x.end(12);
         Check.due("cut number", x.law(), 0);
         Check.due("tape empty after a law", x.count(8), 0);
+        feedBehindEnd();
+    }
+
+    /** "Twenty bytes come behind the TAPE": behind its first n alone, of each number the highest first. */
+    private static void feedBehindEnd() {
+        Counted x = new Counted();
+        x.place(7);
+        Check.due("feed", x.feed(four("rent"), four(" 123"), four("45]]"), four("]]]]"), four("]]]]")), 20);
+        Check.due("end", x.end(8), 8);
+        Check.due("feed behind 8", x.feed(four("4 +5"), four("*6  "), four(" ;da"), four("rk 1"), four("]]]]")), 28);
+        Check.due("end", x.end(16), 16);
+        Check.due("end below it", x.end(17), -1);
+        Check.due("law", x.law(), 0);
+        x.booth(0, 1, 0);
+        Check.due("RENT", x.rent(0, 0, 0, 0), 1234 + 30);
+        Check.due("feed an empty TAPE", x.feed(0x72656e74, 0x20370000, 0, 0, 0), 20);
+        Check.due("end", x.end(6), 6);
+        Check.due("law", x.law(), 1);
+        Check.due("RENT", x.rent(1, 0, 0, 0), 7);
+    }
+
+    private static int four(String text) {
+        return Check.four(text, 0);
     }
 
     private static void good(String text) {

@@ -4,7 +4,9 @@ public final class ImagesTest {
         x -> x.place(9), x -> x.miles(0, 2, 500), x -> x.heat(1, 1), x -> x.heat(399, 40), x -> x.booth(2, 7, 1),
         x -> x.move(0, 3), x -> x.paper(0, 5), x -> x.strip(0, 13, 4), x -> x.strip(1, 60, 9), x -> x.clock(7) ? 1 : 0,
         x -> x.clock(399) ? 1 : 0, x -> x.change(0, 2), x -> x.change(1, 1), x -> x.empty(1), x -> x.reading(0, 6, 9, 9),
-        x -> x.claim(0, 0, 5), x -> x.call(0, 9999), x -> x.takes(0, 3, 7777, 8888) ? 1 : 0, x -> x.back(2), x -> x.back(0)
+        x -> x.claim(0, 0, 5), x -> x.call(0, 9999), x -> x.takes(0, 3, 7777, 8888) ? 1 : 0, x -> x.back(2), x -> x.back(0),
+        x -> x.strip(1, 60, 0), x -> x.strip(1, 20, 4), x -> x.strip(0, 13, 4) + x.with(0, 1, 0),
+        x -> x.strip(1, 60, 9) + x.finest(1, 1), x -> x.strip(0, 9, 1) + x.again(0, 2, 1)
     };
 
     public static void main(String[] args) {

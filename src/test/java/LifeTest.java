@@ -3,6 +3,7 @@ public final class LifeTest {
     public static void main(String[] args) {
         firstNumbers();
         milesBothWays();
+        wordsAtTheirBounds();
         paperForStrips();
         inNow();
         strengthsOfTests();
@@ -68,6 +69,30 @@ public final class LifeTest {
                 Check.due("the other way", x.miles(b, a, 999), 12 * a + b);
                 Check.due("as told last", x.miles(a, b, 0), 999);
             }
+        }
+    }
+
+    /** light 0 and 99, heat 0 and 40, day 0 and 399, place 0 and 11, price 1 and 999, as a LAW is told them. */
+    private static void wordsAtTheirBounds() {
+        String[] words = {"light", "heat", "day", "place", "box"};
+        int[] least = {0, 0, 0, 0, 1};
+        int[] most = {99, 40, 399, 11, 999};
+        for (int i = 0; i < words.length; i++) {
+            Counted x = new Counted();
+            for (int place = 0; place < 12; place++) {
+                x.place(9 * place);
+            }
+            Check.law(x, "rent " + words[i]);
+            x.heat(0, 0);
+            x.heat(399, 40);
+            Check.due("BOOTH of price 1", x.booth(0, 1, 0), 0);
+            Check.due("BOOTH of price 999", x.booth(11, 999, 0), 1);
+            x.paper(0, 1);
+            x.paper(1, 1);
+            x.strip(0, 1, 1);
+            x.strip(1, 1, 1);
+            Check.due("the least " + words[i], x.rent(0, 0, 0, 0), least[i]);
+            Check.due("the most " + words[i], x.rent(0, 1, 0, 399), most[i]);
         }
     }
 

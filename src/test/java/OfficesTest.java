@@ -72,6 +72,15 @@ public final class OfficesTest {
         Check.due("of BOOTH 1", x.refused(1, 1), 2);
         Check.due("of all", x.refused(1, -1), 3);
         Check.due("without refuse", x.refused(0, -1), 0);
+        Counted y = Towns.house("refuse 1=1", 10);
+        Check.law(y, "refuse 1=2");
+        Check.due("none there is", y.refused(0, 0), 0);
+        Check.due("none there is", y.newer(0, 1), 0);
+        y.strip(0, 1, 1);
+        y.strip(0, 99, 20);
+        Check.due("all there are", y.refused(0, 0), 2);
+        Check.due("all there are", y.newer(0, 1), 20);
+        Check.due("all there are", y.newer(1, 0), -20);
         Check.due("no such BOOTH", x.refused(1, 2), -1);
         Check.due("no such BOOTH", x.refused(1, -2), -1);
         Check.due("no such LAW", x.refused(2, 0), -1);

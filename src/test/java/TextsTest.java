@@ -47,6 +47,17 @@ public final class TextsTest {
         rent("rent " + sum, due);
     }
 
+    /** The same of the first bytes of a text alone. */
+    private static void cut(String text, int bytes, int due) {
+        Counted x = new Counted();
+        x.place(50);
+        Check.tape(x, text);
+        x.end(bytes);
+        Check.due("law " + bytes + " of " + text, x.law(), 0);
+        x.booth(0, 3, 0);
+        Check.due("rent by " + bytes + " of " + text, x.rent(0, 0, 0, 0), due);
+    }
+
     private static void test(String test, boolean due) {
         Check.due("dark " + test, Towns.house("dark " + test, 10).strip(0, 1, 0), due ? 4 : 0);
     }
@@ -61,6 +72,14 @@ public final class TextsTest {
         fault("rent 7" + " ".repeat(393) + "+", 400, 0);
         fault(" ".repeat(400), 400, 0);
         rent("rent" + " ".repeat(391) + "12345", 12345);
+        cut("rent 1234", 6, 1);
+        cut("rent 1234", 8, 123);
+        cut("rent 7+heat", 6, 7);
+        cut("rent heats", 9, 15);
+        cut("rent 5;rent", 6, 5);
+        cut("rent 5 if 1=23", 13, 0);
+        cut("rent 5 if 2=23", 13, 5);
+        cut("rent 123456", 10, 12345);
     }
 
     /** "CLAUSE { ; CLAUSE }, 14 at most": the fourteenth counts, a fifteenth is a fault at its first byte. */
@@ -498,7 +517,10 @@ public final class TextsTest {
             Check.due("RENT behind " + text, x.rent(0, 0, 0, 0), 7);
             Check.due("RENT of 60 VALUES behind " + text, x.rent(1, 0, 0, 0), 60);
             Check.due("none is REFUSED behind " + text, x.refused(0, 0), 0);
-            Check.due("LAWS behind " + text, x.count(2), 2);
+            Check.due("faulty: " + text, Check.law(x, text) < -2, true);
+            Check.due("behind " + text, Check.law(x, "dark head=1;off head=2"), 2);
+            Check.due("dark behind " + text, x.again(0, 2, 4), 1);
+            Check.due("LAWS behind " + text, x.count(2), 3);
         }
     }
 }
